@@ -622,6 +622,12 @@ public final class StairIdeals {
             heights[cell] = Math.min(heights[cell], Monomial.exponent(monomial, 3));
         }
 
+        void raiseBy(Stairs other) {
+            for (int cell = 0; cell < CELLS; cell++) {
+                heights[cell] = Math.max(heights[cell], other.heights[cell]);
+            }
+        }
+
         // No generator goes beyond 6, so that what is beyond is in just if it is in when cut to 6.
         boolean contains(int monomial) {
             return heights[cellOf(monomial)] <= Math.min(HIGHEST, Monomial.exponent(monomial, 3));
@@ -749,24 +755,19 @@ public final class StairIdeals {
                     made.spreadUp();
                     return true;
                 case MEET:
-                    meetOf(k, j);
+                    made.become(k);
+                    other.become(j);
+                    made.raiseBy(other);
                     return true;
                 case PRODUCT:
                     return productFits(k, j);
                 case QUOTIENT:
-                    quotientOf(k, j);
+                    other.become(k);
+                    divideOther(j);
                     return true;
                 default:
                     radicalOf(k);
                     return true;
-            }
-        }
-
-        private void meetOf(Ideal k, Ideal j) {
-            made.become(k);
-            other.become(j);
-            for (int cell = 0; cell < Stairs.CELLS; cell++) {
-                made.heights[cell] = Math.max(made.heights[cell], other.heights[cell]);
             }
         }
 
@@ -793,8 +794,7 @@ public final class StairIdeals {
             return true;
         }
 
-        private void quotientOf(Ideal k, Ideal j) {
-            other.become(k);
+        private void divideOther(Ideal j) {
             made.becomeAll();
             for (int n = 0; n < j.size; n++) {
                 int by = j.generators[n];
