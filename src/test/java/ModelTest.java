@@ -43,8 +43,8 @@ public final class ModelTest {
             "make UNKNOWN", "make OUTSIDE", "make STATE", "make FULL", "part NONE", "prime NONE", "primary STATE",
             "primary FULL", "dual OUTSIDE", "dual STATE", "dual FULL", "facts NONE", "hold STATE", "take NO",
             "take STATE",
-            "measure NO", "measure NONE", "image OUTSIDE", "restore STATE", "told OUTSIDE", "make ok", "primary ok",
-            "dual ok", "take ok", "measure ok", "restore ok"};
+            "measure NO", "measure NONE", "image OUTSIDE", "make harmless", "restore STATE", "told OUTSIDE",
+            "make ok", "primary ok", "dual ok", "take ok", "measure ok", "restore ok"};
         for (String name : needed) {
             if (!answers.containsKey(name)) {
                 wrong++;
@@ -71,6 +71,8 @@ public final class ModelTest {
                 int pick = random.nextInt(20);
                 if (wide && pick < 3) {
                     tellWide();
+                } else if (pick == 0) {
+                    tellCrossed();
                 } else if (pick < 4) {
                     tellList();
                 } else if (pick < 9) {
@@ -162,6 +164,28 @@ public final class ModelTest {
             if (random.nextInt(2) == 0 || m.fault() != NONE) {
                 due("wipe()", x.wipe(), m.wipe(), "wipe");
             }
+            same();
+        }
+
+        /** Products of which some may be too high, and yet beyond another product. */
+        void tellCrossed() {
+            due("wipe()", x.wipe(), m.wipe(), "wipe");
+            int high = random.nextInt(4);
+            for (int k = 0; k < 2; k++) {
+                StringBuilder text = new StringBuilder();
+                int terms = 2 + random.nextInt(2);
+                for (int t = 0; t < terms; t++) {
+                    text.append(t > 0 ? "," : "").append((char) ('a' + high)).append(4 - random.nextInt(4));
+                    text.append((char) ('a' + (high + 1 + random.nextInt(3)) % 4)).append(1 + random.nextInt(2));
+                }
+                for (int n = 0; n < text.length(); n++) {
+                    say(text.charAt(n));
+                }
+                due("load(" + k + ") of " + text, x.load(k), m.load(k), "load");
+            }
+            due("make(2,0,1,2)", x.make(2, 0, 1, 2), m.make(2, 0, 1, 2), "make");
+            due("make(2,1,0,3)", x.make(2, 1, 0, 3), m.make(2, 1, 0, 3), "make");
+            due("compare(2,3)", x.compare(2, 3), m.compare(2, 3), "compare");
             same();
         }
 
@@ -289,7 +313,7 @@ public final class ModelTest {
             due("told(" + t + ")", x.told(t), m.told(t), "told");
         }
 
-        /** Looks at the whole state; these calls are not told as part of the 512, so they are few. */
+        /** Looks at a part of the state after each change, and at all of it near the end of the run. */
         void same() {
             int k = random.nextInt(4);
             due("generator(" + k + ",-1)", x.generator(k, -1), m.generator(k, -1), "generator");
@@ -553,15 +577,26 @@ public final class ModelTest {
                     }
                 }
             }
+            boolean highBefore = isHigh(list);
             list = least(list);
+            if (isHigh(list)) {
+                return STATE;
+            }
+            if (highBefore) {
+                answers.merge("make harmless", 1, Integer::sum);
+            }
+            return put(list, to);
+        }
+
+        static boolean isHigh(List<int[]> list) {
             for (int[] m : list) {
                 for (int e : m) {
                     if (e > 6) {
-                        return STATE;
+                        return true;
                     }
                 }
             }
-            return put(list, to);
+            return false;
         }
 
         int put(List<int[]> list, int to) {

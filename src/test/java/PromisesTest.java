@@ -315,19 +315,31 @@ public final class PromisesTest {
         generatorsAre(x, 3, 6, 33, 60, 303, 330, 600);
         x = with("a4,b", "a4,b,c", "a4c,b", "a3,b");
         due("a8 is too high", x.make(2, 0, 1, 3), STATE);
-        // a8b6 lies beyond a6, which is a product, too
-        x = with("a4b6,a2", "a4,a3b2");
-        due("what is too high does no harm if it is no generator", x.make(2, 0, 1, 3), 2);
-        generatorsAre(x, 3, 5200, 6000);
+        // a8bc lies beyond a4bc, which is a product, too
+        x = with("a4c,a2b", "a4b,a2c");
+        due("what is too high does no harm if it is no generator", x.make(2, 0, 1, 3), 3);
+        generatorsAre(x, 3, 4110, 6020, 6200);
+        x = with("d4c,d2b", "d4b,d2c");
+        due("nor with d", x.make(2, 0, 1, 3), 3);
+        generatorsAre(x, 3, 26, 114, 206);
         x = with("a4,b3c", "a4,a2b,b3");
         due("a8 is a generator", x.make(2, 0, 1, 3), STATE);
         x = with("d4,a", "d4,b");
         due("d8", x.make(2, 0, 1, 3), STATE);
         x = with("d4,d3a", "d3,b");
         due("d7", x.make(2, 0, 1, 3), STATE);
-        x = with("bd4,d2", "d5b,d4");
+        x = with("d2", "d4");
         due("d6", x.make(2, 0, 1, 3), 1);
         generatorsAre(x, 3, 6);
+        x = with("a,b6", "a6,b5");
+        load(x, 0, "c");
+        load(x, 1, "d");
+        due("former generators have gone", x.make(2, 0, 1, 3), 1);
+        load(x, 0, "a,b6");
+        load(x, 0, "c");
+        load(x, 1, "a6");
+        due("former generators have gone", x.make(2, 0, 1, 3), 1);
+        due("former generators have gone", x.make(2, 1, 0, 3), 1);
     }
 
     private static void quotients() {
@@ -648,6 +660,7 @@ public final class PromisesTest {
         factsAre("a6b6c6d6", 3, NONE, 0, 0, 1);
         factsAre("a6,b6,c6,d6,abcd,a3b3,c3d3", 0, 473, 13, 5, 81);
         factsAre("c2d,cd2", 3, NONE, 2, 2, 3);
+        factsAre("a5b6c6d6,a6b6c5d6", 3, NONE, 22, 22, 3);
         StairIdeals x = new StairIdeals();
         int[] bad = {-1, 5, Integer.MIN_VALUE, Integer.MAX_VALUE};
         for (int what : bad) {

@@ -93,7 +93,8 @@ public final class RulesTest {
         }
         String code = text.replaceAll("(?s)/\\*.*?\\*/", "").replaceAll("//[^\n]*", "");
         Matcher match = Pattern.compile("\\b(throw|throws|try|catch|synchronized|assert|package|Exact|protected|var"
-                + "|System\\.out|Random|Thread|Float|Double|Object|StringBuilder|String)\\b|->|::|Exact\\(").matcher(code);
+                + "|System\\.out|Random|Thread|Float|Double|Object|StringBuilder|String)\\b|->|::|Exact\\(")
+                .matcher(code);
         while (match.find()) {
             due("a word that the rules leave out", match.group(), "nothing");
         }
