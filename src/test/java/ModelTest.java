@@ -19,13 +19,24 @@ public final class ModelTest {
         "b6c2d,a3c6d2,a2b2d5,c5d3,bc4d6,a4d4,a5c2d2,a6cd3,b5d3,a2bc4",
         "ab2c2d2,a3bcd3,a2b4c,a6bc3d,a4c3d2,a5b2c3,ab2c3d,a3b2c2d2",
         "b3c3d2,a2bc3d2,a3b3d3,ab5c3d4"};
+    private static final int MOST_CALLS = 512;
     private static int wrong = 0;
+    private static int ended = 0;
     private static final Map<String, Integer> answers = new HashMap<>();
 
+    /** The object of a run has got all the calls that it may get. */
+    private static final class Ended extends RuntimeException {
+        private static final long serialVersionUID = 1L;
+    }
+
     public static void main(String[] args) {
-        int runs = args.length > 0 ? Integer.parseInt(args[0]) : 150;
+        int runs = args.length > 0 ? Integer.parseInt(args[0]) : 500;
         for (int seed = 1; seed <= runs && wrong < 20; seed++) {
             new Run(seed).play();
+        }
+        if (ended != runs && wrong == 0) {
+            wrong++;
+            System.out.println(ended + " of " + runs + " runs made all their calls");
         }
         if (args.length > 1) {
             System.out.println(new java.util.TreeMap<>(answers));
@@ -56,7 +67,7 @@ public final class ModelTest {
     private static final class Run {
         final int seed;
         final Random random;
-        final StairIdeals x = new StairIdeals();
+        private final StairIdeals object = new StairIdeals();
         final Model m = new Model();
         int calls = 0;
 
@@ -65,30 +76,46 @@ public final class ModelTest {
             this.random = new Random(seed);
         }
 
+        /** What later calls answer is free: so the run ends ahead of them, wherever it is. */
+        StairIdeals x() {
+            if (calls == MOST_CALLS) {
+                throw new Ended();
+            }
+            calls++;
+            return object;
+        }
+
         void play() {
-            boolean wide = seed % 3 == 0;
-            while (calls < 480) {
-                int pick = random.nextInt(20);
-                if (wide && pick < 3) {
+            try {
+                if (seed % 3 == 0) {
                     tellWide();
-                } else if (pick == 0) {
-                    tellCrossed();
-                } else if (pick < 4) {
-                    tellList();
-                } else if (pick < 9) {
-                    change();
-                } else if (pick < 14) {
-                    shelve();
-                    shelve();
-                    shelve();
-                } else {
-                    look();
                 }
+                for (int step = 0; step < MOST_CALLS; step++) {
+                    goOn();
+                }
+            } catch (Ended e) {
+                ended++;
+            }
+        }
+
+        void goOn() {
+            int pick = random.nextInt(20);
+            if (pick == 0) {
+                tellCrossed();
+            } else if (pick < 4) {
+                tellList();
+            } else if (pick < 9) {
+                change();
+            } else if (pick < 14) {
+                shelve();
+                shelve();
+                shelve();
+            } else {
+                look();
             }
         }
 
         void due(String call, long got, long want, String name) {
-            calls++;
             String[] words = {"", "UNKNOWN", "OUTSIDE", "STATE", "FULL", "NO", "NONE"};
             answers.merge(name + " " + (want < 0 && want > -7 ? words[(int) -want] : "ok"), 1, Integer::sum);
             if (got != want) {
@@ -115,11 +142,11 @@ public final class ModelTest {
         }
 
         void say(int sign) {
-            due("say(" + sign + ")", x.say(sign), m.say(sign), "say");
+            due("say(" + sign + ")", x().say(sign), m.say(sign), "say");
         }
 
         void tellList() {
-            int terms = random.nextInt(4) == 0 ? 14 : 1 + random.nextInt(5);
+            int terms = random.nextInt(4) == 0 ? 10 + random.nextInt(9) : 1 + random.nextInt(5);
             int high = 1 + random.nextInt(6);
             boolean rough = random.nextInt(4) == 0;
             StringBuilder text = new StringBuilder();
@@ -154,22 +181,22 @@ public final class ModelTest {
             for (int n = 0; n < text.length(); n++) {
                 say(text.charAt(n));
                 if (rough) {
-                    due("fault()", x.fault(), m.fault(), "fault");
+                    due("fault()", x().fault(), m.fault(), "fault");
                 }
             }
-            due("fault()", x.fault(), m.fault(), "fault");
-            due("told(0)", x.told(0), m.pad.size(), "told");
+            due("fault()", x().fault(), m.fault(), "fault");
+            due("told(0)", x().told(0), m.pad.size(), "told");
             int to = ideal();
-            due("load(" + to + ") of " + text, x.load(to), m.load(to), "load");
+            due("load(" + to + ") of " + text, x().load(to), m.load(to), "load");
             if (random.nextInt(2) == 0 || m.fault() != NONE) {
-                due("wipe()", x.wipe(), m.wipe(), "wipe");
+                due("wipe()", x().wipe(), m.wipe(), "wipe");
             }
             same();
         }
 
         /** Products of which some may be too high, and yet beyond another product. */
         void tellCrossed() {
-            due("wipe()", x.wipe(), m.wipe(), "wipe");
+            due("wipe()", x().wipe(), m.wipe(), "wipe");
             int high = random.nextInt(4);
             for (int k = 0; k < 2; k++) {
                 StringBuilder text = new StringBuilder();
@@ -181,11 +208,11 @@ public final class ModelTest {
                 for (int n = 0; n < text.length(); n++) {
                     say(text.charAt(n));
                 }
-                due("load(" + k + ") of " + text, x.load(k), m.load(k), "load");
+                due("load(" + k + ") of " + text, x().load(k), m.load(k), "load");
             }
-            due("make(2,0,1,2)", x.make(2, 0, 1, 2), m.make(2, 0, 1, 2), "make");
-            due("make(2,1,0,3)", x.make(2, 1, 0, 3), m.make(2, 1, 0, 3), "make");
-            due("compare(2,3)", x.compare(2, 3), m.compare(2, 3), "compare");
+            due("make(2,0,1,2)", x().make(2, 0, 1, 2), m.make(2, 0, 1, 2), "make");
+            due("make(2,1,0,3)", x().make(2, 1, 0, 3), m.make(2, 1, 0, 3), "make");
+            due("compare(2,3)", x().compare(2, 3), m.compare(2, 3), "compare");
             same();
         }
 
@@ -193,7 +220,7 @@ public final class ModelTest {
         void tellWide() {
             int degree = 6 + random.nextInt(6);
             int lists = 3 + random.nextInt(5);
-            due("wipe()", x.wipe(), m.wipe(), "wipe");
+            due("wipe()", x().wipe(), m.wipe(), "wipe");
             boolean known = random.nextInt(6) == 0;
             for (int t = 0; t < lists; t++) {
                 StringBuilder text = new StringBuilder(known && t < 3 ? MANY_INSIDE[t] : "");
@@ -211,19 +238,18 @@ public final class ModelTest {
                 for (int n = 0; n < text.length(); n++) {
                     say(text.charAt(n));
                 }
-                due("load(0) of " + text, x.load(0), m.load(0), "load");
+                due("load(0) of " + text, x().load(0), m.load(0), "load");
                 int k = t == 0 ? 0 : 2;
-                due("make(0,0," + k + ",2)", x.make(0, 0, k, 2), m.make(0, 0, k, 2), "make");
-                calls -= text.length();
+                due("make(0,0," + k + ",2)", x().make(0, 0, k, 2), m.make(0, 0, k, 2), "make");
             }
             for (int how = 1; how < 4; how++) {
-                due("make(" + how + ",2,0,1)", x.make(how, 2, 0, 1), m.make(how, 2, 0, 1), "make");
+                due("make(" + how + ",2,0,1)", x().make(how, 2, 0, 1), m.make(how, 2, 0, 1), "make");
             }
-            due("dual(2,6666,0)", x.dual(2, 6666, 0), m.dual(2, 6666, 0), "dual");
-            due("primary(2,15,0)", x.primary(2, 15, 0), m.primary(2, 15, 0), "primary");
+            due("dual(2,6666,0)", x().dual(2, 6666, 0), m.dual(2, 6666, 0), "dual");
+            due("primary(2,15,0)", x().primary(2, 15, 0), m.primary(2, 15, 0), "primary");
             for (int i = 0; i < 4; i++) {
-                due("betti(2," + i + ")", x.betti(2, i), m.betti(2, i), "betti");
-                due("facts(2," + i + ")", x.facts(2, i), m.facts(2, i), "facts");
+                due("betti(2," + i + ")", x().betti(2, i), m.betti(2, i), "betti");
+                due("facts(2," + i + ")", x().facts(2, i), m.facts(2, i), "facts");
             }
             same();
         }
@@ -235,7 +261,7 @@ public final class ModelTest {
             int to = ideal();
             if (pick < 6) {
                 int how = random.nextInt(30) == 0 ? near(0, 4) : random.nextInt(5);
-                due("make(" + how + "," + k + "," + j + "," + to + ")", x.make(how, k, j, to), m.make(how, k, j, to),
+                due("make(" + how + "," + k + "," + j + "," + to + ")", x().make(how, k, j, to), m.make(how, k, j, to),
                         "make");
             } else if (pick < 8) {
                 int prime = random.nextInt(16);
@@ -246,14 +272,14 @@ public final class ModelTest {
                     int[] odd = {-1, 16, 32, 35, -32, Integer.MIN_VALUE, Integer.MAX_VALUE};
                     prime = odd[random.nextInt(odd.length)];
                 }
-                due("primary(" + k + "," + prime + "," + to + ")", x.primary(k, prime, to), m.primary(k, prime, to),
+                due("primary(" + k + "," + prime + "," + to + ")", x().primary(k, prime, to), m.primary(k, prime, to),
                         "primary");
             } else {
                 int c = random.nextInt(3) == 0 ? code() : 6666;
                 if (m.isIdeal(k) && random.nextInt(3) == 0) {
                     c = m.lcmCode(m.ideals[k]);
                 }
-                due("dual(" + k + "," + c + "," + to + ")", x.dual(k, c, to), m.dual(k, c, to), "dual");
+                due("dual(" + k + "," + c + "," + to + ")", x().dual(k, c, to), m.dual(k, c, to), "dual");
             }
             same();
         }
@@ -265,20 +291,20 @@ public final class ModelTest {
             int pick = random.nextInt(10);
             if (pick < 4) {
                 boolean ring = random.nextBoolean();
-                due("hold(" + shelf + "," + place + "," + ideal + "," + ring + ")", x.hold(shelf, place, ideal, ring),
+                due("hold(" + shelf + "," + place + "," + ideal + "," + ring + ")", x().hold(shelf, place, ideal, ring),
                         m.hold(shelf, place, ideal, ring), "hold");
             } else if (pick < 6) {
-                due("take(" + shelf + "," + place + "," + ideal + ")", x.take(shelf, place, ideal),
+                due("take(" + shelf + "," + place + "," + ideal + ")", x().take(shelf, place, ideal),
                         m.take(shelf, place, ideal), "take");
             } else if (pick < 8) {
-                due("measure(" + shelf + "," + place + ")", x.measure(shelf, place), m.measure(shelf, place),
+                due("measure(" + shelf + "," + place + ")", x().measure(shelf, place), m.measure(shelf, place),
                         "measure");
             } else {
                 int k = random.nextInt(12) == 0 ? near(0, 1) : random.nextInt(2);
                 if (random.nextBoolean()) {
-                    due("image(" + k + ")", x.image(k), m.image(k), "image");
+                    due("image(" + k + ")", x().image(k), m.image(k), "image");
                 } else {
-                    due("restore(" + k + ")", x.restore(k), m.restore(k), "restore");
+                    due("restore(" + k + ")", x().restore(k), m.restore(k), "restore");
                 }
             }
             same();
@@ -288,69 +314,73 @@ public final class ModelTest {
             int k = ideal();
             int j = ideal();
             int i = near(-1, 8);
-            due("compare(" + k + "," + j + ")", x.compare(k, j), m.compare(k, j), "compare");
-            due("generator(" + k + "," + i + ")", x.generator(k, i), m.generator(k, i), "generator");
-            due("part(" + k + "," + i + ")", x.part(k, i), m.part(k, i), "part");
-            due("prime(" + k + "," + i + ")", x.prime(k, i), m.prime(k, i), "prime");
+            due("compare(" + k + "," + j + ")", x().compare(k, j), m.compare(k, j), "compare");
+            due("generator(" + k + "," + i + ")", x().generator(k, i), m.generator(k, i), "generator");
+            due("part(" + k + "," + i + ")", x().part(k, i), m.part(k, i), "part");
+            due("prime(" + k + "," + i + ")", x().prime(k, i), m.prime(k, i), "prime");
             int c = code();
-            due("has(" + k + "," + c + ")", x.has(k, c), m.has(k, c), "has");
+            due("has(" + k + "," + c + ")", x().has(k, c), m.has(k, c), "has");
             int degree = random.nextInt(3) == 0 ? near(0, 60) : random.nextInt(26);
-            due("count(" + k + "," + degree + ")", x.count(k, degree), m.count(k, degree), "count");
-            due("series(" + k + "," + degree + ")", x.series(k, degree), m.series(k, degree), "series");
+            due("count(" + k + "," + degree + ")", x().count(k, degree), m.count(k, degree), "count");
+            due("series(" + k + "," + degree + ")", x().series(k, degree), m.series(k, degree), "series");
             int what = near(0, 2);
-            due("share(" + k + "," + degree + "," + what + ")", x.share(k, degree, what), m.share(k, degree, what),
+            due("share(" + k + "," + degree + "," + what + ")", x().share(k, degree, what), m.share(k, degree, what),
                     "share");
             what = near(0, 4);
-            due("facts(" + k + "," + what + ")", x.facts(k, what), m.facts(k, what), "facts");
+            due("facts(" + k + "," + what + ")", x().facts(k, what), m.facts(k, what), "facts");
             i = near(0, 3);
-            due("betti(" + k + "," + i + ")", x.betti(k, i), m.betti(k, i), "betti");
+            due("betti(" + k + "," + i + ")", x().betti(k, i), m.betti(k, i), "betti");
             if (m.isIdeal(k) && random.nextInt(3) > 0) {
                 List<Integer> all = new ArrayList<>(m.lattice(m.ideals[k]));
                 c = all.isEmpty() ? c : all.get(random.nextInt(all.size()));
             }
-            due("bettiAt(" + k + "," + i + "," + c + ")", x.bettiAt(k, i, c), m.bettiAt(k, i, c), "bettiAt");
+            due("bettiAt(" + k + "," + i + "," + c + ")", x().bettiAt(k, i, c), m.bettiAt(k, i, c), "bettiAt");
             int t = random.nextInt(50) - 2;
-            due("told(" + t + ")", x.told(t), m.told(t), "told");
+            due("told(" + t + ")", x().told(t), m.told(t), "told");
         }
 
-        /** Looks at a part of the state after each change, and at all of it near the end of the run. */
+        /** Looks at a part of the state after each change, and at much more of it now and then. */
         void same() {
             int k = random.nextInt(4);
-            due("generator(" + k + ",-1)", x.generator(k, -1), m.generator(k, -1), "generator");
+            due("generator(" + k + ",-1)", x().generator(k, -1), m.generator(k, -1), "generator");
             int size = m.ideals[k].size();
             if (size > 0) {
                 int i = random.nextInt(size);
-                due("generator(" + k + "," + i + ")", x.generator(k, i), m.generator(k, i), "generator");
+                due("generator(" + k + "," + i + ")", x().generator(k, i), m.generator(k, i), "generator");
             }
-            if (calls > 470) {
-                everything();
+            int pick = random.nextInt(40);
+            if (pick < 3) {
+                everything(k);
+            } else if (pick == 3) {
+                toldOfAll();
             }
         }
 
-        void everything() {
-            for (int k = 0; k < 4; k++) {
-                for (int i = -1; i <= m.ideals[k].size(); i++) {
-                    due("generator(" + k + "," + i + ")", x.generator(k, i), m.generator(k, i), "generator");
-                }
-                int parts = m.parts(m.ideals[k]).size();
-                for (int i = -1; i <= parts; i++) {
-                    due("part(" + k + "," + i + ")", x.part(k, i), m.part(k, i), "part");
-                }
-                for (int i = -1; i <= 16; i++) {
-                    due("prime(" + k + "," + i + ")", x.prime(k, i), m.prime(k, i), "prime");
-                }
-                for (int d = 0; d <= 26; d++) {
-                    due("series(" + k + "," + d + ")", x.series(k, d), m.series(k, d), "series");
-                }
-                for (int w = 0; w < 5; w++) {
-                    due("facts(" + k + "," + w + ")", x.facts(k, w), m.facts(k, w), "facts");
-                }
-                for (int i = 0; i < 4; i++) {
-                    due("betti(" + k + "," + i + ")", x.betti(k, i), m.betti(k, i), "betti");
-                }
+        void everything(int k) {
+            for (int i = -1; i <= m.ideals[k].size(); i++) {
+                due("generator(" + k + "," + i + ")", x().generator(k, i), m.generator(k, i), "generator");
             }
+            int parts = m.parts(m.ideals[k]).size();
+            for (int i = -1; i <= parts; i++) {
+                due("part(" + k + "," + i + ")", x().part(k, i), m.part(k, i), "part");
+            }
+            for (int i = -1; i <= 16; i++) {
+                due("prime(" + k + "," + i + ")", x().prime(k, i), m.prime(k, i), "prime");
+            }
+            for (int d = 0; d <= 26; d++) {
+                due("series(" + k + "," + d + ")", x().series(k, d), m.series(k, d), "series");
+            }
+            for (int w = 0; w < 5; w++) {
+                due("facts(" + k + "," + w + ")", x().facts(k, w), m.facts(k, w), "facts");
+            }
+            for (int i = 0; i < 4; i++) {
+                due("betti(" + k + "," + i + ")", x().betti(k, i), m.betti(k, i), "betti");
+            }
+        }
+
+        void toldOfAll() {
             for (int w = 0; w < 60; w++) {
-                due("told(" + w + ")", x.told(w), m.told(w), "told");
+                due("told(" + w + ")", x().told(w), m.told(w), "told");
             }
         }
     }

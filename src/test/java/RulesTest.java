@@ -1,9 +1,16 @@
+import java.io.DataInputStream;
+import java.io.IOException;
+import java.io.InputStream;
 import java.lang.management.ManagementFactory;
 import java.lang.reflect.Field;
 import java.lang.reflect.Method;
 import java.lang.reflect.Modifier;
 import java.nio.file.Files;
 import java.nio.file.Path;
+import java.util.ArrayList;
+import java.util.HashMap;
+import java.util.List;
+import java.util.Map;
 import java.util.Set;
 import java.util.TreeSet;
 import java.util.regex.Matcher;
@@ -19,11 +26,18 @@ public final class RulesTest {
         "int take(int,int,int)", "int measure(int,int)", "int image(int)", "int restore(int)", "int told(int)"};
     private static final int[] EXTREMES = {Integer.MIN_VALUE, -1000, -7, -2, -1, 0, 1, 2, 3, 4, 5, 15, 16, 40, 60, 61,
         1111, 6666, 6667, 10000, Integer.MAX_VALUE};
+    /** What the class may use of the library: of what rule 4 lists, all that it needs. */
+    private static final Set<String> LIBRARY = Set.of("java/lang/Object.<init>", "java/lang/Integer.bitCount",
+        "java/lang/Math.max", "java/lang/Math.min", "java/lang/System.arraycopy", "java/util/Arrays.fill");
+    private static final int MOST_CALLS = 512;
+    private static final int MOST_DEEP = 8;
     private static int wrong = 0;
 
     public static void main(String[] args) throws Exception {
         face();
+        members();
         source();
+        compiled();
         anyArguments();
         room();
         System.out.println(wrong == 0 ? "RulesTest: all is as due" : wrong + " things are not as due");
@@ -69,10 +83,8 @@ public final class RulesTest {
         }
         due("constants", constants, new TreeSet<>(Set.of("int UNKNOWN -1", "int OUTSIDE -2", "int STATE -3",
                 "int FULL -4", "int NO -5", "int NONE -6", "long GONE -1000000000000000000")));
-        due("classes", StairIdeals.class.getDeclaredClasses().length <= 12, true);
         for (Class<?> inside : StairIdeals.class.getDeclaredClasses()) {
             due(inside + " is static", Modifier.isStatic(inside.getModifiers()), true);
-            due(inside + " has few fields", inside.getDeclaredFields().length <= 20, true);
             for (Method method : inside.getDeclaredMethods()) {
                 due("a name of the face: " + method, names.contains(method.getName()), false);
             }
@@ -84,6 +96,48 @@ public final class RulesTest {
         }
     }
 
+    private static List<Class<?>> classes() {
+        List<Class<?>> all = new ArrayList<>(List.of(StairIdeals.class.getDeclaredClasses()));
+        all.add(StairIdeals.class);
+        return all;
+    }
+
+    /** Rules 2, 3, 5 and 11, as far as fields and methods show them. */
+    private static void members() {
+        due("classes", classes().size() <= 12, true);
+        for (Class<?> one : classes()) {
+            int fields = 0;
+            for (Field field : one.getDeclaredFields()) {
+                boolean fixed = Modifier.isStatic(field.getModifiers());
+                fields += fixed ? 0 : 1;
+                due("type of " + field, fixed ? isConstant(field.getType()) : isType(field.getType()), true);
+                due(field + " is final, or no static one", !fixed || Modifier.isFinal(field.getModifiers()), true);
+            }
+            due(one + " has few fields", fields <= 20, true);
+            due(one + " has no class inside", one == StairIdeals.class || one.getDeclaredClasses().length == 0, true);
+            for (Method method : one.getDeclaredMethods()) {
+                due("parameters of " + method, method.getParameterCount() <= 7, true);
+                due("made by the compiler: " + method, method.isSynthetic(), false);
+                for (Class<?> type : method.getParameterTypes()) {
+                    due("type in " + method, isType(type), true);
+                }
+            }
+        }
+    }
+
+    private static boolean isConstant(Class<?> type) {
+        return Set.of(int.class, long.class, boolean.class, char.class, String.class, int[].class, long[].class,
+                char[].class, byte[].class).contains(type);
+    }
+
+    private static boolean isType(Class<?> type) {
+        if (type.isArray() && type.getComponentType().isArray()) {
+            return type.getComponentType().getComponentType().isPrimitive();
+        }
+        Class<?> single = type.isArray() ? type.getComponentType() : type;
+        return single.isPrimitive() || classes().contains(single);
+    }
+
     private static void source() throws Exception {
         String text = Files.readString(Path.of("src/main/java/StairIdeals.java"));
         for (int i = 0; i < text.length(); i++) {
@@ -93,7 +147,8 @@ public final class RulesTest {
         }
         String code = text.replaceAll("(?s)/\\*.*?\\*/", "").replaceAll("//[^\n]*", "");
         Matcher match = Pattern.compile("\\b(throw|throws|try|catch|synchronized|assert|package|Exact|protected|var"
-                + "|System\\.out|Random|Thread|Float|Double|Object|StringBuilder|String)\\b|->|::|Exact\\(")
+                + "|System\\.out|Random|Thread|Float|Double|Object|StringBuilder|String|equals|hashCode|toString)\\b"
+                + "|->|::|Exact\\(|static \\{|while \\(true\\)|for \\(;|; ;")
                 .matcher(code);
         while (match.find()) {
             due("a word that the rules leave out", match.group(), "nothing");
@@ -121,48 +176,70 @@ public final class RulesTest {
         }
     }
 
-    private static StairIdeals[] states() {
-        StairIdeals[] all = new StairIdeals[4];
-        for (int n = 0; n < all.length; n++) {
-            all[n] = new StairIdeals();
+    /** An object that is made anew when it has got all the calls that it may get. */
+    private static final class Run {
+        private final int state;
+        private StairIdeals object;
+        private int calls = MOST_CALLS;
+
+        Run(int state) {
+            this.state = state;
         }
-        say(all[1], "a6,b6,c6,d6,abcd,a3b3,c3d3");
-        all[1].load(0);
-        say(all[1], "1");
-        all[1].load(1);
-        say(all[1], "a,b,c,d");
-        all[1].load(2);
-        all[1].hold(0, 0, 0, false);
-        all[1].hold(1, 1, 1, true);
-        all[1].hold(2, 2, 2, true);
-        all[1].image(0);
-        for (int n = 0; n < 60; n++) {
-            all[2].say('a');
+
+        StairIdeals call() {
+            if (calls == MOST_CALLS) {
+                calls = 0;
+                object = new StairIdeals();
+                begin();
+            }
+            calls++;
+            return object;
         }
-        all[2].image(1);
-        say(all[3], "a,b,c,d");
-        all[3].load(0);
-        all[3].make(2, 0, 0, 1);
-        all[3].make(2, 1, 1, 2);
-        say(all[3], "a,");
-        return all;
+
+        private void list(String text) {
+            say(object, text);
+            calls += text.length();
+        }
+
+        private void load(int ideal, String text) {
+            list(text);
+            call().load(ideal);
+        }
+
+        private void begin() {
+            if (state == 1) {
+                load(0, "a6,b6,c6,d6,abcd,a3b3,c3d3");
+                load(1, "1");
+                load(2, "a,b,c,d");
+                call().hold(0, 0, 0, false);
+                call().hold(1, 1, 1, true);
+                call().hold(2, 2, 2, true);
+                call().image(0);
+            } else if (state == 2) {
+                list("a".repeat(60));
+                call().image(1);
+            } else if (state == 3) {
+                load(0, "a,b,c,d");
+                call().make(2, 0, 0, 1);
+                call().make(2, 1, 1, 2);
+                list("a,");
+            }
+        }
     }
 
+    /** Rule 7: no call may ever throw or fail to end, for any arguments in any state. */
     private static void anyArguments() throws Exception {
         for (Method method : StairIdeals.class.getDeclaredMethods()) {
-            if (!Modifier.isPublic(method.getModifiers())) {
-                continue;
-            }
-            for (StairIdeals x : states()) {
-                tryAll(x, method, new Object[method.getParameterCount()], 0);
+            for (int state = 0; state < 4 && Modifier.isPublic(method.getModifiers()); state++) {
+                tryAll(new Run(state), method, new Object[method.getParameterCount()], 0);
             }
         }
     }
 
-    private static void tryAll(StairIdeals x, Method method, Object[] arguments, int at) throws Exception {
+    private static void tryAll(Run x, Method method, Object[] arguments, int at) throws Exception {
         if (at == arguments.length) {
             try {
-                method.invoke(x, arguments);
+                method.invoke(x.call(), arguments);
             } catch (java.lang.reflect.InvocationTargetException e) {
                 due(method + " with " + java.util.Arrays.toString(arguments), e.getCause(), "an answer");
             }
@@ -178,6 +255,166 @@ public final class RulesTest {
         for (int extreme : EXTREMES) {
             arguments[at] = extreme;
             tryAll(x, method, arguments, at + 1);
+        }
+    }
+
+    // ---- what the compiler has made of the class
+
+    /** Rules 4, 6, 8 and 11: which methods call which, and that none throws or catches. */
+    private static void compiled() throws Exception {
+        Map<String, Set<String>> calls = new HashMap<>();
+        Set<String> outside = new TreeSet<>();
+        for (Class<?> one : classes()) {
+            try (InputStream in = one.getResourceAsStream("/" + one.getName() + ".class")) {
+                new ClassFile(new DataInputStream(in)).addCalls(calls);
+            }
+        }
+        for (Set<String> called : calls.values()) {
+            for (String name : called) {
+                if (!name.startsWith("StairIdeals")) {
+                    outside.add(name);
+                }
+            }
+        }
+        outside.removeAll(LIBRARY);
+        due("used of the library, beside what the rules list", outside, new TreeSet<>());
+        due("methods were read", calls.containsKey("StairIdeals.told"), true);
+        for (String name : calls.keySet()) {
+            due("calls in one another from " + name, deep(name, calls, new ArrayList<>()) <= MOST_DEEP, true);
+        }
+    }
+
+    /** A method that calls itself counts once; any other ring of calls is told. */
+    private static int deep(String name, Map<String, Set<String>> calls, List<String> open) {
+        int most = 0;
+        open.add(name);
+        for (String next : calls.getOrDefault(name, Set.of())) {
+            if (!open.contains(next)) {
+                most = Math.max(most, deep(next, calls, open));
+            } else if (!next.equals(name)) {
+                due("methods call one another", open + " " + next, "none");
+            }
+        }
+        open.remove(open.size() - 1);
+        return most + 1;
+    }
+
+    /** Reads just what is needed of a class file: constants, and the calls of each method. */
+    private static final class ClassFile {
+        private final DataInputStream in;
+        private final Object[] constants;
+
+        ClassFile(DataInputStream in) throws IOException {
+            this.in = in;
+            in.skipNBytes(8);
+            constants = new Object[in.readUnsignedShort()];
+            for (int n = 1; n < constants.length; n++) {
+                int tag = in.readUnsignedByte();
+                constants[n] = readConstant(tag);
+                n += tag == 5 || tag == 6 ? 1 : 0;
+            }
+        }
+
+        private Object readConstant(int tag) throws IOException {
+            switch (tag) {
+                case 1:
+                    return in.readUTF();
+                case 7: case 8: case 16: case 19: case 20:
+                    return new int[] {in.readUnsignedShort()};
+                case 3: case 4:
+                    return in.readInt();
+                case 5: case 6:
+                    return in.readLong();
+                case 9: case 10: case 11: case 12:
+                    return new int[] {in.readUnsignedShort(), in.readUnsignedShort()};
+                default:
+                    due("a constant for lambdas and their like", tag, "none");
+                    throw new IOException("constant " + tag);
+            }
+        }
+
+        private String text(int at, int... path) {
+            Object found = constants[at];
+            for (int step : path) {
+                found = constants[((int[]) found)[step]];
+            }
+            return (String) found;
+        }
+
+        void addCalls(Map<String, Set<String>> calls) throws IOException {
+            in.skipNBytes(2);
+            String own = text(in.readUnsignedShort(), 0);
+            in.skipNBytes(2);
+            in.skipNBytes(2L * in.readUnsignedShort());
+            readMembers(own, null);
+            readMembers(own, calls);
+        }
+
+        private void readMembers(String own, Map<String, Set<String>> calls) throws IOException {
+            int members = in.readUnsignedShort();
+            for (int n = 0; n < members; n++) {
+                in.skipNBytes(2);
+                String name = own + "." + text(in.readUnsignedShort());
+                in.skipNBytes(2);
+                int attributes = in.readUnsignedShort();
+                for (int k = 0; k < attributes; k++) {
+                    boolean isCode = text(in.readUnsignedShort()).equals("Code");
+                    byte[] bytes = in.readNBytes(in.readInt());
+                    if (isCode) {
+                        readCode(name, bytes, calls.computeIfAbsent(name, m -> new TreeSet<>()));
+                    }
+                }
+            }
+        }
+
+        private static int number(byte[] bytes, int at, int length) {
+            int value = 0;
+            for (int n = 0; n < length; n++) {
+                value = value << 8 | bytes[at + n] & 255;
+            }
+            return value;
+        }
+
+        private void readCode(String name, byte[] bytes, Set<String> called) {
+            int end = 8 + number(bytes, 4, 4);
+            due("what is caught in " + name, number(bytes, end, 2), 0);
+            int at = 8;
+            while (at < end) {
+                int code = bytes[at] & 255;
+                due("throw or synchronized in " + name, code == 191 || code == 194 || code == 195, false);
+                if (code >= 182 && code <= 185) {
+                    int method = number(bytes, at + 1, 2);
+                    called.add(text(method, 0, 0) + "." + text(method, 1, 0));
+                }
+                at += length(bytes, at, code);
+            }
+            due("the end of " + name, at, end);
+        }
+
+        private static int length(byte[] bytes, int at, int code) {
+            int table = 8 + ((at - 8) / 4 + 1) * 4;
+            if (code == 170) {
+                return table + 12 + 4 * (number(bytes, table + 8, 4) - number(bytes, table + 4, 4) + 1) - at;
+            }
+            if (code == 171) {
+                return table + 8 + 8 * number(bytes, table + 4, 4) - at;
+            }
+            if (code == 196) {
+                return (bytes[at + 1] & 255) == 132 ? 6 : 4;
+            }
+            if (code >= 153 && code <= 168 || code >= 178 && code <= 184 || code == 17 || code == 19 || code == 20
+                    || code == 132 || code == 187 || code == 189 || code == 192 || code == 193 || code == 198
+                    || code == 199) {
+                return 3;
+            }
+            if (code == 185 || code == 186 || code == 200 || code == 201) {
+                return 5;
+            }
+            if (code == 197) {
+                return 4;
+            }
+            return code == 16 || code == 18 || code >= 21 && code <= 25 || code >= 54 && code <= 58 || code == 169
+                    || code == 188 ? 2 : 1;
         }
     }
 
