@@ -18,7 +18,8 @@ public final class LawsTest {
     private static final int SUM = 0, MEET = 1, PRODUCT = 2, QUOTIENT = 3, RADICAL = 4;
     private static final String[] BY_HAND = {"", "1", "a", "d6", "a6b6c6d6", "a,b,c,d", "a6,b6,c6,d6", "a2,ab,b3",
         "ab,bc,cd,ad", "ab,ac,ad,bc,bd,cd", "a2,ab,ac,ad", "a6,b6,c6,d6,abcd,a3b3,c3d3", "a2c2,abc2,ab2c",
-        "a5b6c6d6,a6b6c5d6", "a2,b2,c2,d2,abc,abd,acd,bcd"};
+        "a5b6c6d6,a6b6c5d6", "a2,b2,c2,d2,abc,abd,acd,bcd",
+        "c6,ad2,bd2,c3d2,d5", "a6,db2,cb2,a3b2,b5", "d6,ac2,bc2,d3c2,c5", "b6,ca2,da2,b3a2,a5"};
 
     /** All monomials that have a code. */
     private static final List<int[]> BOX = boxOfAll();

@@ -26,7 +26,7 @@ public final class RulesTest {
         "int take(int,int,int)", "int measure(int,int)", "int image(int)", "int restore(int)", "int told(int)"};
     private static final int[] EXTREMES = {Integer.MIN_VALUE, -1000, -7, -2, -1, 0, 1, 2, 3, 4, 5, 15, 16, 40, 60, 61,
         1111, 6666, 6667, 10000, Integer.MAX_VALUE};
-    /** What the class may use of the library: of what rule 4 lists, all that it needs. */
+    /** Of what rule 4 lists, all that the class uses; what is added to the class is looked up there first. */
     private static final Set<String> LIBRARY = Set.of("java/lang/Object.<init>", "java/lang/Integer.bitCount",
         "java/lang/Math.max", "java/lang/Math.min", "java/lang/System.arraycopy", "java/util/Arrays.fill");
     private static final int MOST_CALLS = 512;
@@ -277,7 +277,7 @@ public final class RulesTest {
             }
         }
         outside.removeAll(LIBRARY);
-        due("used of the library, beside what the rules list", outside, new TreeSet<>());
+        due("used of the library, and not looked up in rule 4 yet", outside, new TreeSet<>());
         due("methods were read", calls.containsKey("StairIdeals.told"), true);
         for (String name : calls.keySet()) {
             due("calls in one another from " + name, deep(name, calls, new ArrayList<>()) <= MOST_DEEP, true);
